@@ -1,0 +1,32 @@
+/** Compares answers with those that are due, and ends a test. */
+final class Check {
+    private static int wrong = 0;
+
+    private Check() {
+    }
+
+    static void due(String call, long got, long want) {
+        if (got != want) {
+            wrong++;
+            System.out.println(call + " answered " + got + ", due is " + want);
+        }
+    }
+
+    static void that(String what, boolean holds) {
+        if (!holds) {
+            wrong++;
+            System.out.println("does not hold: " + what);
+        }
+    }
+
+    static boolean allWell() {
+        return wrong == 0;
+    }
+
+    static void end() {
+        if (wrong != 0) {
+            System.out.println(wrong + " wrong");
+            System.exit(1);
+        }
+    }
+}
