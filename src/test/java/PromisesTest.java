@@ -428,21 +428,31 @@ final class PromisesTest {
     private static void tidy() {
         DedupBlocks x = with45Used();
         x.write(9, 1);
-        x.write(20, 1);
+        x.spread(10, 9, 6);
+        x.clone(2, 0);
+        x.clone(3, 1);
+        Check.due("no block holds 0", x.holders(0), 0);
+        tidyUnseen("every block in use", x);
+        x.erase(2);
         x.write(7, 0);
-        x.write(12, dear(0));
+        tidyUnseen("gaps", x);
+        Check.due("room is as before", x.write(7, dear(7)), 0);
+        Check.due("and no more", x.write(21, 4095), FULL);
+        x.tidy();
+        Check.due("nor after tidy", x.write(21, 4095), FULL);
+        DedupBlocks empty = new DedupBlocks();
+        tidyUnseen("new", empty);
+        holds("tidy of a new one", empty);
+    }
+
+    private static void tidyUnseen(String when, DedupBlocks x) {
         int[] before = answers(x);
         x.tidy();
         x.tidy();
         int[] after = answers(x);
         for (int i = 0; i < before.length; i++) {
-            Check.due("answer " + i + " after tidy", after[i], before[i]);
+            Check.due(when + ": answer " + i + " after tidy", after[i], before[i]);
         }
-        Check.due("room is as before", x.write(7, dear(7)), 0);
-        Check.due("and no more", x.write(21, 4095), FULL);
-        DedupBlocks empty = new DedupBlocks();
-        empty.tidy();
-        holds("tidy of a new one", empty);
     }
 
     private static int[] answers(DedupBlocks x) {
