@@ -1,7 +1,8 @@
 /** Many runs of 512 calls, the same ones each time, on the class and on the model beside it. */
 final class ModelTest {
     private static final int RUNS = 300;
-    private static final int CALLS = 512;
+    // With the 32 reads at its end a run makes the 512 calls that the document allows.
+    private static final int CALLS = 480;
     private static long seed = 1;
     private static int refusedFull = 0;
 

@@ -1,10 +1,10 @@
+import java.util.List;
+
 /** One method per promise: ordinary inputs, the edges the document names, wrong inputs. */
-final class PromisesTest {
+final class PromisesTest extends Fixture {
     private static final int BAD = DedupBlocks.BAD_ARG;
     private static final int FULL = DedupBlocks.FULL;
     private static final int NONE = DedupBlocks.NONE;
-    private static final int MIN = Integer.MIN_VALUE;
-    private static final int MAX = Integer.MAX_VALUE;
     private static final int[] NO_BLOCK = {-1, 32, 33, MIN, MAX};
     private static final int[] NO_VOLUME = {-1, 4, 5, MIN, MAX, 0x20000000};
     private static final int[] NO_CONTENT = {-1, 4096, 4097, MIN, MAX};
@@ -37,39 +37,6 @@ final class PromisesTest {
         favourite();
         tidy();
         Check.end();
-    }
-
-    private static int content(int d0, int d1, int d2, int d3) {
-        return d0 + 8 * d1 + 64 * d2 + 512 * d3;
-    }
-
-    /** Contents of four runs each, all different, for k from 0 to 31. */
-    private static int dear(int k) {
-        return content(k % 4, 4 + k / 4 % 4, k / 16, 7);
-    }
-
-    /** Nine contents of room 5 on blocks 0 to 8: 45 of the 48 are used. */
-    private static DedupBlocks with45Used() {
-        DedupBlocks x = new DedupBlocks();
-        for (int n = 0; n < 9; n++) {
-            Check.due("write dear", x.write(n, dear(n)), 0);
-        }
-        Check.due("used of nine dear ones", x.used(), 45);
-        return x;
-    }
-
-    private static DedupBlocks holding(int... contents) {
-        DedupBlocks x = new DedupBlocks();
-        for (int n = 0; n < contents.length; n++) {
-            x.write(n, contents[n]);
-        }
-        return x;
-    }
-
-    private static void holds(String when, DedupBlocks x, int... contents) {
-        for (int n = 0; n < 32; n++) {
-            Check.due(when + ": read(" + n + ")", x.read(n), n < contents.length ? contents[n] : 0);
-        }
     }
 
     private static void roomIs(int content, int room) {
@@ -426,51 +393,26 @@ final class PromisesTest {
     }
 
     private static void tidy() {
-        DedupBlocks x = with45Used();
-        x.write(9, 1);
+        DedupBlocks x = full();
         x.spread(10, 9, 6);
         x.clone(2, 0);
         x.clone(3, 1);
         Check.due("no block holds 0", x.holders(0), 0);
         tidyUnseen("every block in use", x);
-        x.erase(2);
-        x.write(7, 0);
-        tidyUnseen("gaps", x);
-        Check.due("room is as before", x.write(7, dear(7)), 0);
-        Check.due("and no more", x.write(21, 4095), FULL);
-        x.tidy();
-        Check.due("nor after tidy", x.write(21, 4095), FULL);
+        tidyUnseen("gaps", mixed());
         DedupBlocks empty = new DedupBlocks();
         tidyUnseen("new", empty);
         holds("tidy of a new one", empty);
     }
 
     private static void tidyUnseen(String when, DedupBlocks x) {
-        int[] before = answers(x);
+        List<String> before = answers(x);
         x.tidy();
         x.tidy();
-        int[] after = answers(x);
-        for (int i = 0; i < before.length; i++) {
-            Check.due(when + ": answer " + i + " after tidy", after[i], before[i]);
+        List<String> after = answers(x);
+        for (int i = 0; i < before.size(); i++) {
+            Check.that(when + ": " + after.get(i) + " after tidy, due is " + before.get(i),
+                    after.get(i).equals(before.get(i)));
         }
-    }
-
-    private static int[] answers(DedupBlocks x) {
-        int[] a = new int[32 * 3 + 4 + 5];
-        int k = 0;
-        for (int n = 0; n < 32; n++) {
-            a[k++] = x.read(n);
-            a[k++] = x.alone(n);
-            a[k++] = x.twin(n);
-        }
-        for (int v = 0; v < 4; v++) {
-            a[k++] = x.aloneIn(v);
-        }
-        a[k++] = x.used();
-        a[k++] = x.saved();
-        a[k++] = x.distinct();
-        a[k++] = x.favourite();
-        a[k++] = x.holders(0);
-        return a;
     }
 }
